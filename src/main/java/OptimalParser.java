@@ -246,26 +246,21 @@ public final class OptimalParser {
         appendToBlock(over % extLimit);
     }
 
-    // The planner goes from the end of SOURCE to its front, so that the cost of
-    // what follows a match is known when the match is weighed.
-
+    /**
+     * Goes from the end of SOURCE to its front, so that the cost of what follows a match
+     * is known when the match is weighed. At each position the first sequences are weighed
+     * in the order of preference; as a later one must be strictly cheaper to win, the
+     * preferred of the cheapest stays.
+     */
     private void planSource() {
         for (int start = sourceLength; start >= 0; start--) {
-            planFrom(start);
+            planCost[start] = IMPOSSIBLE;
+            int mostLiterals = sourceLength - start - minMatch;
+            for (int literals = 0; literals <= mostLiterals; literals++) {
+                planMatches(start, literals);
+            }
+            planFinal(start);
         }
-    }
-
-    /**
-     * Weighs the first sequences in the order of preference; as a later one must be
-     * strictly cheaper to win, the preferred of the cheapest stays.
-     */
-    private void planFrom(int start) {
-        planCost[start] = IMPOSSIBLE;
-        int mostLiterals = sourceLength - start - minMatch;
-        for (int literals = 0; literals <= mostLiterals; literals++) {
-            planMatches(start, literals);
-        }
-        planFinal(start);
     }
 
     private void planMatches(int start, int literals) {

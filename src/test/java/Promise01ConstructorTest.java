@@ -60,6 +60,10 @@ public final class Promise01ConstructorTest {
             Check.due("E from " + g[0] + ": encode()", x.encode(), 1 + extension + 32);
             Check.due("E from " + g[0] + ": last extension cell", x.cellAt(OptimalParser.BLOCK, extension), 30 % g[1]);
         }
+        // An E of 256 would end the extension at 255 and find no room for the match.
+        OptimalParser above = new OptimalParser(2, 256, 4, 0);
+        Check.setBlock(above, 18, 6, 1, 0, 255);
+        Check.due("E from 256: decode() of a match with 255", above.decode(), OptimalParser.SHORT);
         // 255 and 254 differ only in whether the cell 254 ends the extension.
         OptimalParser below = new OptimalParser(2, 254, 4, 0);
         Check.setBlock(below, 32, 254, 255);
