@@ -1,57 +1,106 @@
 /** Promise 5: cut shortens SOURCE or BLOCK, never OUTPUT. */
 public final class Promise05CutTest {
+    private static final int[] ODD = {Check.LOW, Check.LOW + 1, -65, -64, -2, -1, 65, 66, 256, Check.HIGH - 1, Check.HIGH};
+
     public static void main(String[] args) {
-        ordinary();
-        wrongArguments();
-        grownAgain();
+        Check.sentence("If `which` is neither `SOURCE` nor `BLOCK`: answers `BAD_ARGUMENT`.", Promise05CutTest::otherList);
+        Check.sentence("OUTPUT can't be cut.", Promise05CutTest::output);
+        Check.sentence("If n < 0 or n > length of that list: answers `BAD_ARGUMENT`.", Promise05CutTest::badLength);
+        Check.sentence("Otherwise only the first n cells of that list are kept; answers n.", Promise05CutTest::keeps);
+        Check.sentence("With n = 0 the list becomes empty;", Promise05CutTest::toNothing);
+        Check.sentence("with n equal to its length the list stays as it is.", Promise05CutTest::toItsLength);
+        Check.sentence("The two other lists do not change.", Promise05CutTest::othersStay);
         Check.end("Promise05CutTest");
     }
 
-    private static void ordinary() {
-        OptimalParser x = Check.busy();
-        Check.due("cut(SOURCE, 4)", x.cut(OptimalParser.SOURCE, 4), 4);
-        Check.due("cut(BLOCK, 3)", x.cut(OptimalParser.BLOCK, 3), 3);
-        Check.lists("after cuts to the whole length", x, Check.BUSY_SOURCE, Check.BUSY_BLOCK, Check.BUSY_OUTPUT);
-        Check.due("cut(SOURCE, 3)", x.cut(OptimalParser.SOURCE, 3), 3);
-        Check.lists("after cut(SOURCE, 3)", x, Check.cells(5, 6, 7), Check.BUSY_BLOCK, Check.BUSY_OUTPUT);
-        Check.due("cut(BLOCK, 1)", x.cut(OptimalParser.BLOCK, 1), 1);
-        Check.lists("after cut(BLOCK, 1)", x, Check.cells(5, 6, 7), Check.cells(32), Check.BUSY_OUTPUT);
-        Check.due("cut(SOURCE, 0)", x.cut(OptimalParser.SOURCE, 0), 0);
-        Check.lists("after cut(SOURCE, 0)", x, new int[0], Check.cells(32), Check.BUSY_OUTPUT);
-        Check.due("cut(BLOCK, 0)", x.cut(OptimalParser.BLOCK, 0), 0);
-        Check.lists("after cut(BLOCK, 0)", x, new int[0], new int[0], Check.BUSY_OUTPUT);
-        Check.due("cut(SOURCE, 0) again", x.cut(OptimalParser.SOURCE, 0), 0);
-        Check.due("cut(BLOCK, 0) again", x.cut(OptimalParser.BLOCK, 0), 0);
-        Check.due("cut(SOURCE, 1) of nothing", x.cut(OptimalParser.SOURCE, 1), OptimalParser.BAD_ARGUMENT);
-    }
-
-    private static void wrongArguments() {
-        OptimalParser x = Check.busy();
-        for (int which : Check.cells(OptimalParser.OUTPUT, 3, -1, 256, Integer.MIN_VALUE, Integer.MAX_VALUE)) {
-            for (int n : Check.cells(0, 1, 3)) {
-                Check.due("cut(" + which + ", " + n + ")", x.cut(which, n), OptimalParser.BAD_ARGUMENT);
+    private static void otherList() {
+        for (OptimalParser x : new OptimalParser[] {Check.usual(), Check.busy(), Check.full()}) {
+            for (int which : Check.cells(-1, -2, 3, 4, 256, 257, Check.LOW, Check.LOW + 1, Check.HIGH, Check.HIGH - 1)) {
+                for (int n : Check.join(Check.cells(0, 1, 3, 4), ODD)) {
+                    Check.stays("cut(" + which + ", " + n + ")", x, OptimalParser.BAD_ARGUMENT, () -> x.cut(which, n));
+                }
             }
         }
-        for (int n : Check.cells(-1, -2, 5, 32, Integer.MIN_VALUE, Integer.MAX_VALUE)) {
-            Check.due("cut(SOURCE, " + n + ")", x.cut(OptimalParser.SOURCE, n), OptimalParser.BAD_ARGUMENT);
-        }
-        for (int n : Check.cells(-1, -2, 4, 64, Integer.MIN_VALUE, Integer.MAX_VALUE)) {
-            Check.due("cut(BLOCK, " + n + ")", x.cut(OptimalParser.BLOCK, n), OptimalParser.BAD_ARGUMENT);
-        }
-        Check.lists("after refused cuts", x, Check.BUSY_SOURCE, Check.BUSY_BLOCK, Check.BUSY_OUTPUT);
     }
 
-    /** What was cut off has no influence on what follows. */
-    private static void grownAgain() {
-        OptimalParser x = new OptimalParser(15, 255, 4, 0);
-        Check.setSource(x, 1, 1, 1, 1, 1, 1, 1, 1);
+    private static void output() {
+        for (OptimalParser x : new OptimalParser[] {Check.usual(), Check.busy(), Check.full()}) {
+            for (int n : Check.join(Check.counting(0, 34), ODD)) {
+                Check.stays("cut(OUTPUT, " + n + ")", x, OptimalParser.BAD_ARGUMENT, () -> x.cut(OptimalParser.OUTPUT, n));
+            }
+        }
+    }
+
+    private static void badLength() {
+        for (int length = 0; length <= 64; length++) {
+            OptimalParser x = Check.full();
+            x.cut(OptimalParser.BLOCK, length);
+            x.cut(OptimalParser.SOURCE, length / 2);
+            for (int n : Check.join(Check.cells(length + 1, length + 2), ODD)) {
+                Check.stays("cut(BLOCK, " + n + ") of " + length, x, OptimalParser.BAD_ARGUMENT, () -> x.cut(OptimalParser.BLOCK, n));
+            }
+            for (int n : Check.join(Check.cells(length / 2 + 1, length / 2 + 2), ODD)) {
+                Check.stays("cut(SOURCE, " + n + ") of " + length / 2, x, OptimalParser.BAD_ARGUMENT,
+                        () -> x.cut(OptimalParser.SOURCE, n));
+            }
+        }
+    }
+
+    private static void keeps() {
+        for (int n = 0; n <= 32; n++) {
+            OptimalParser x = Check.full();
+            Check.due("cut(SOURCE, " + n + ")", x.cut(OptimalParser.SOURCE, n), n);
+            Check.due("SOURCE after it", Check.list(x, OptimalParser.SOURCE), Check.first(n, Check.FULL_SOURCE));
+        }
+        for (int n = 0; n <= 64; n++) {
+            OptimalParser x = Check.full();
+            Check.due("cut(BLOCK, " + n + ")", x.cut(OptimalParser.BLOCK, n), n);
+            Check.due("BLOCK after it", Check.list(x, OptimalParser.BLOCK), Check.first(n, Check.FULL_BLOCK));
+        }
+        // What was cut off has no influence on what follows.
+        OptimalParser x = Check.usual();
+        x.repeat(1, 8);
         x.cut(OptimalParser.SOURCE, 2);
         Check.due("encode() after cut", x.encode(), 3);
-        Check.lists("after it", x, Check.cells(1, 1), Check.cells(32, 1, 1), new int[0]);
-        x.put(9);
-        Check.due("put after cut", x.cellAt(OptimalParser.SOURCE, 2), 9);
         Check.setBlock(x, 48, 1, 2, 3);
         x.cut(OptimalParser.BLOCK, 3);
         Check.due("decode() after cut", x.decode(), OptimalParser.SHORT);
+    }
+
+    private static void toNothing() {
+        for (OptimalParser x : new OptimalParser[] {Check.usual(), Check.busy(), Check.full()}) {
+            for (int which : Check.cells(OptimalParser.SOURCE, OptimalParser.BLOCK)) {
+                Check.due("cut(" + which + ", 0)", x.cut(which, 0), 0);
+                Check.due("the list after it", Check.list(x, which), Check.NONE);
+                Check.stays("cut(" + which + ", 0) again", x, 0, () -> x.cut(which, 0));
+                Check.stays("cut(" + which + ", 1) of nothing", x, OptimalParser.BAD_ARGUMENT, () -> x.cut(which, 1));
+            }
+        }
+    }
+
+    private static void toItsLength() {
+        for (int length = 0; length <= 32; length++) {
+            OptimalParser x = Check.full();
+            int n = length;
+            x.cut(OptimalParser.SOURCE, n);
+            Check.stays("cut(SOURCE, " + n + ") of " + n, x, n, () -> x.cut(OptimalParser.SOURCE, n));
+        }
+        for (int length = 0; length <= 64; length++) {
+            OptimalParser x = Check.full();
+            int n = length;
+            x.cut(OptimalParser.BLOCK, n);
+            Check.stays("cut(BLOCK, " + n + ") of " + n, x, n, () -> x.cut(OptimalParser.BLOCK, n));
+        }
+    }
+
+    private static void othersStay() {
+        for (int n = 31; n >= 0; n--) {
+            OptimalParser x = Check.full();
+            x.cut(OptimalParser.SOURCE, n);
+            Check.lists("after cut(SOURCE, " + n + ")", x, Check.first(n, Check.FULL_SOURCE), Check.FULL_BLOCK, Check.FULL_OUTPUT);
+            OptimalParser y = Check.full();
+            y.cut(OptimalParser.BLOCK, n);
+            Check.lists("after cut(BLOCK, " + n + ")", y, Check.FULL_SOURCE, Check.first(n, Check.FULL_BLOCK), Check.FULL_OUTPUT);
+        }
     }
 }
