@@ -186,5 +186,21 @@ public final class Promise01ConstructorTest {
                 x.adopt();
             }
         }
+        // Every reason that decode can have to refuse a block.
+        int[][] blocks = {{}, {16}, {255, 255}, {32, 255}, {80, 255}, {16, 1, 1, 0, 0}, {17, 1}, {16, 1, 2, 0, 0}, {15}, {33}, {0, 0, 0},
+            Check.same(0, 64), Check.join(Check.cells(16, 1), many(Check.cells(1, 0, 0), 12))};
+        for (int[] block : blocks) {
+            Check.setBlock(x, block);
+            x.decode();
+            x.surplus();
+        }
+    }
+
+    private static int[] many(int[] cells, int n) {
+        int[] all = Check.NONE;
+        for (int i = 0; i < n; i++) {
+            all = Check.join(all, cells);
+        }
+        return all;
     }
 }

@@ -100,10 +100,15 @@ public final class Promise07EncodeTest {
                 encodes("the empty SOURCE over a full BLOCK", x, Check.NONE, 0);
             }
         }
-        OptimalParser x = Check.full();
-        x.encode();
-        x.cut(OptimalParser.SOURCE, 0);
-        encodes("a SOURCE made empty", x, Check.NONE, 0);
+        for (int tail = 0; tail <= 8; tail++) {
+            OptimalParser x = parser(15, 255, 3, tail);
+            x.repeat(9, 32);
+            x.encode();
+            encodes("a SOURCE of equal cells made empty", x, Check.NONE, 0);
+            Check.setSource(x, Check.FULL_SOURCE);
+            x.encode();
+            encodes("a SOURCE of unequal cells made empty", x, Check.NONE, 0);
+        }
     }
 
     private static void fewestCells() {

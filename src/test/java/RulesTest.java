@@ -157,7 +157,7 @@ public final class RulesTest {
         for (int call = 0; call < METHODS; call++) {
             for (int a = -1; a <= 5; a++) {
                 for (int b = -1; b <= 5; b++) {
-                    for (OptimalParser x : new OptimalParser[] {Check.usual(), Check.busy(), Check.full()}) {
+                    for (OptimalParser x : new OptimalParser[] {Check.usual(), Check.busy(), Check.full(), longBlock()}) {
                         int[][] before = {Check.list(x, 0), Check.list(x, 1), Check.list(x, 2)};
                         call(x, call, a, b);
                         for (int which = 0; which <= 2; which++) {
@@ -170,6 +170,14 @@ public final class RulesTest {
                 }
             }
         }
+    }
+
+    /** A BLOCK that stands for SOURCE and is longer than need be, so that surplus, too, isn't refused. */
+    private static OptimalParser longBlock() {
+        OptimalParser x = Check.busy();
+        Check.setSource(x, Check.same(9, 10));
+        Check.setBlock(x, Check.join(Check.cells(160), Check.same(9, 10)));
+        return x;
     }
 
     /** Calls for which two conditions with unequal answers hold; within decode, promise 11 has its own. */
