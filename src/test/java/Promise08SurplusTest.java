@@ -107,7 +107,6 @@ public final class Promise08SurplusTest {
             OptimalParser x = new OptimalParser(n[0], n[1], n[2], n[3]);
             int[] source = dice.source(32);
             Check.setSource(x, source);
-            Check.setBlock(x, Check.cells());
             int shortest = x.encode();
             Check.stays("surplus() right after encode()", x, 0, x::surplus);
             int[] literals = Check.join(Check.cells(16 * Probe.field(n[0], source.length)),
