@@ -12,7 +12,7 @@ public final class Promise13CellAtTest {
     }
 
     private static void refused(OptimalParser x, int which, int index) {
-        Check.due("cellAt(" + which + ", " + index + ")", x.cellAt(which, index), OptimalParser.BAD_ARGUMENT);
+        Check.stays("cellAt(" + which + ", " + index + ")", x, OptimalParser.BAD_ARGUMENT, () -> x.cellAt(which, index));
     }
 
     private static void otherList() {
