@@ -19,6 +19,7 @@ public final class Promise11DecodeTest {
         Check.sentence("add e; if e < E the extension is over; if e = E go on with the next cell.", Promise11DecodeTest::extensionOver);
         Check.sentence("If L > rest: `SHORT`.", Promise11DecodeTest::literalsShort);
         Check.sentence("If length of result + L > `CAPACITY`: `OVERFLOW`.", Promise11DecodeTest::literalsOverflow);
+        Check.sentence("Read L cells and append them to the result.", Promise11DecodeTest::literalsAppended);
         Check.sentence("If rest is 0, this is the final sequence: if b is not 0: `BAD_END`;", Promise11DecodeTest::matchFieldAtEnd);
         Check.sentence("if a match was carried out before in this block and L < T: `BAD_END`; otherwise the block is accepted.",
                 Promise11DecodeTest::tailAtEnd);
@@ -211,6 +212,24 @@ public final class Promise11DecodeTest {
             refuses(usual(), OVERFLOW, Check.join(head, Probe.literals(15, 255, room + 1)));
         }
         refuses(usual(), OVERFLOW, 31, 7, 1, 0, 12, 16, 1);
+    }
+
+    private static void literalsAppended() {
+        for (int literals = 0; literals <= 14; literals++) {
+            int[] cells = Check.counting(200, literals);
+            // In the first sequence, and as the last one, behind what a match has made.
+            accepts(usual(), Check.join(Check.cells(16 * literals), cells), cells);
+            accepts(usual(), Check.join(Check.cells(16, 7, 1, 0, 16 * literals), cells), Check.join(Check.same(7, 5), cells));
+            // Between two matches: the offset is read right behind the literals and reaches over all of them.
+            accepts(usual(), Check.join(Check.cells(16, 7, 1, 0, 16 * literals), cells, Check.cells(literals + 5, 0, 0)),
+                    Check.join(Check.same(7, 5), cells, Check.same(7, 4)));
+        }
+        // Literals that look like tokens, extensions or offsets are cells like any other.
+        accepts(small(), Check.cells(32, 2, 0, 255, 0, 2, 16), 255, 0, 2, 16);
+        accepts(usual(), Check.cells(64, 16, 1, 0, 0), 16, 1, 0, 0);
+        for (int v = 0; v <= 255; v++) {
+            accepts(usual(), Check.cells(32, v, 255 - v), v, 255 - v);
+        }
     }
 
     private static void matchFieldAtEnd() {
